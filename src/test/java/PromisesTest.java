@@ -27,6 +27,7 @@ public final class PromisesTest {
         firstError();
         firstErrorOfOrders();
         run();
+        runAfterLongerText();
         runStops();
         runIsOneCall();
         undo();
@@ -471,6 +472,7 @@ public final class PromisesTest {
         ScaffoldYard y = new ScaffoldYard();
         write(y, text);
         same("16: " + text, want, y.firstError());
+        same("16: again " + text, want, y.firstError());
         same("16: nothing is changed", text.length(), y.clearBuffer());
     }
 
@@ -532,6 +534,26 @@ public final class PromisesTest {
         write(y, "h5*4");
         same("17: all sets", 1, y.run());
         same("17: none left", 0, y.count(2));
+    }
+
+    /** What a longer text left behind in the buffer is not read. */
+    private static void runAfterLongerText() {
+        ScaffoldYard y = yard(24);
+        write(y, "d19;h0*24");
+        same("17: longer", 2, y.run());
+        write(y, "d1");
+        same("16: shorter", 2, y.firstError());
+        same("17: shorter", 1, y.run());
+        same("17: one day", 20, y.count(3));
+        write(y, "m23>5;m2>");
+        y.clearBuffer();
+        write(y, "m2");
+        same("16: shorter", 2, y.firstError());
+        Check.fails("17: shorter", ARGUMENT, () -> y.run());
+        y.clearBuffer();
+        write(y, "b1");
+        same("17: the set named", 1, y.run());
+        same("17: the set named", -1, y.bundle(1, 0));
     }
 
     private static void runOn(int sets, String text, int want) {
@@ -646,6 +668,7 @@ public final class PromisesTest {
         undone(y, "buySpare", () -> y.buySpare(2, 4));
         undone(y, "repair", () -> y.repair(2));
         undone(y, "damage", () -> y.damage(1, 1, 1));
+        undone(y, "damage that the yard bears", () -> y.damage(2, 2, 1));
         undone(y, "swap", () -> y.swap(1, 2));
         undone(y, "hire", () -> y.hire(5, 1));
         undone(y, "moveOn", () -> y.moveOn(0, 4));
@@ -720,6 +743,17 @@ public final class PromisesTest {
         same("19: a site again", 1, y.bundle(0, 5));
         same("19: a site again", 5, y.bundle(0, 6));
         same("19: on sites", 6, y.bundle(0, 8));
+        ScaffoldYard all = yard(24);
+        for (int set = 0; set < 24; set++) {
+            all.hire(set % 6, 1);
+            all.moveOn(set, (set + 1) % 6);
+            all.moveOn(set, (set + 2) % 6);
+        }
+        for (int set = 0; set < 24; set++) {
+            same("19: latest of " + set, (set + 2) % 6, all.bundle(set, 4));
+            same("19: before it, of " + set, (set + 1) % 6, all.bundle(set, 5));
+            same("19: the third of " + set, set % 6, all.bundle(set, 6));
+        }
     }
 
     // promise 20
@@ -929,6 +963,9 @@ public final class PromisesTest {
         sameShare("28: all", 1.0, y.hiredShare());
         y.bring(2);
         sameShare("28: back", 2.0 / 3.0, y.hiredShare());
+        ScaffoldYard one = yard(1);
+        one.hire(0, 1);
+        sameShare("28: the only one", 1.0, one.hiredShare());
     }
 
     // promise 29
