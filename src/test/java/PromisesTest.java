@@ -968,79 +968,56 @@ public final class PromisesTest {
         sameShare("28: the only one", 1.0, one.hiredShare());
     }
 
-    // promise 29
-    private static long digestByHand(ScaffoldYard y, String text) {
-        long hash = 2549;
-        for (int what = 0; what <= 9; what++) {
-            hash = 31 * hash + y.count(what);
+    private static ScaffoldYard hiredOneByOne(int sets, int hired) {
+        ScaffoldYard y = yard(sets);
+        y.buySpare(sets % 4, sets);
+        y.damage(sets - 1, 2, 1);
+        for (int set = 0; set < hired; set++) {
+            y.hire(set % 6, 1);
         }
-        hash = 31 * hash + y.setting(0);
-        hash = 31 * hash + y.setting(1);
-        for (int set = 0; set < y.count(0); set++) {
-            int[] whats = {0, 1, 2, 3, 4, 5, 6, 7, 8, 10, 11, 12, 13};
-            for (int what : whats) {
-                hash = 31 * hash + y.bundle(set, what);
-            }
-            hash = 31 * hash + y.billIn(set, 30);
-            for (int site = 0; site < 6; site++) {
-                hash = 31 * hash + y.splitOn(set, 100, site);
-            }
-        }
-        for (int site = 0; site < 6; site++) {
-            for (int what = 0; what <= 7; what++) {
-                hash = 31 * hash + y.site(site, what);
-            }
-            hash = 31 * hash + y.oldest(site);
-        }
-        for (int kind = 0; kind < 4; kind++) {
-            for (int what = 0; what <= 4; what++) {
-                hash = 31 * hash + y.parts(kind, what);
-            }
-        }
-        hash = 31 * hash + y.ifRepaired();
-        hash = 31 * hash + Double.doubleToLongBits(y.hiredShare());
-        hash = 31 * hash + text.length();
-        for (int i = 0; i < text.length(); i++) {
-            hash = 31 * hash + text.charAt(i);
-        }
-        return hash;
+        return y;
+    }
+
+    private static ScaffoldYard allHired() {
+        ScaffoldYard y = yard(24);
+        y.hire(1, 24);
+        y.pass(30);
+        return y;
     }
 
     // promise 29
     private static void digest() {
         for (int sets = 1; sets <= 24; sets++) {
-            ScaffoldYard y = yard(sets);
-            y.buySpare(sets % 4, sets);
-            y.damage(sets - 1, 2, 1);
-            same("29: none hired", digestByHand(y, ""), y.digest());
-            for (int hired = 1; hired < sets; hired++) {
-                y.hire(hired % 6, 1);
-                same("29: " + hired + " of " + sets, digestByHand(y, ""), y.digest());
+            for (int hired = 0; hired < sets; hired++) {
+                int s = sets;
+                int h = hired;
+                long due = Digest.of(() -> hiredOneByOne(s, h), "");
+                same("29: " + hired + " of " + sets, due, hiredOneByOne(sets, hired).digest());
             }
-            y.repair(sets - 1);
-            same("29: repaired", digestByHand(y, ""), y.digest());
         }
-        ScaffoldYard all = yard(24);
-        all.hire(1, 24);
-        all.pass(30);
-        same("29: all hired", digestByHand(all, ""), all.digest());
+        same("29: all hired", Digest.of(() -> allHired(), ""), allHired().digest());
     }
 
     // promise 29
     private static void digestOfNewObject() {
-        same("29: new", digestByHand(new ScaffoldYard(), ""), new ScaffoldYard().digest());
+        same("29: new", Digest.of(ScaffoldYard::new, ""), new ScaffoldYard().digest());
+    }
+
+    private static ScaffoldYard oneHired() {
+        ScaffoldYard y = yard(1);
+        y.hire(0, 1);
+        return y;
     }
 
     // promise 29
     private static void digestOfText() {
-        ScaffoldYard y = yard(1);
-        y.hire(0, 1);
+        ScaffoldYard y = oneHired();
         write(y, "~!d");
-        same("29: text", digestByHand(y, "~!d"), y.digest());
+        same("29: text", Digest.of(() -> oneHired(), "~!d"), y.digest());
         same("29: again", y.digest(), y.digest());
         same("29: saved states", 2, y.count(9));
         y.clearBuffer();
-        same("29: cleared", digestByHand(y, ""), y.digest());
+        same("29: cleared", Digest.of(() -> oneHired(), ""), y.digest());
     }
 
     private static void whatThrowsChangesNothing() {
